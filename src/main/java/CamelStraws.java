@@ -18,6 +18,9 @@ public final class CamelStraws {
     /** The findings' numbers. */
     private static final int NULL = 1, INDEX = 2, CAST = 3, STORE = 4, SIZE = 5;
 
+    private static final int LEAST_INT = 1 << 31;
+    private static final long LEAST_LONG = 1L << 63;
+
     private final Camels camels = new Camels();
     private final Bales bales = new Bales();
     private final Text[] texts = new Text[] {camels, bales};
@@ -234,7 +237,7 @@ public final class CamelStraws {
 
     public long chance(int c, int camel, int what) {
         if (c < 0 || c > SIXTEEN || !isCamel(camel) || what < 0 || what > 1) {
-            return Long.MIN_VALUE - BAD;
+            return LEAST_LONG - BAD;
         }
         odds.ofBreaking(c, camel);
         return what == 0 ? odds.above : odds.below;
@@ -290,12 +293,12 @@ public final class CamelStraws {
 
     public int get(int s, int form, int i) {
         if (!isSheet(s) || !isForm(form)) {
-            return Integer.MIN_VALUE;
+            return LEAST_INT;
         }
         int found = sheets[s].whatForbids(form, i);
         if (found != 0) {
             latestFinding = found;
-            return Integer.MIN_VALUE;
+            return LEAST_INT;
         }
         return sheets[s].items[i];
     }
@@ -1060,11 +1063,8 @@ public final class CamelStraws {
             return product;
         }
 
-        /** What is below is a power of 2, so only halves can be taken out. */
+        /** What is below is a power of 2, so only halves can be taken out: of 0 until it is 0 by 1. */
         private void reduce() {
-            if (above == 0) {
-                below = 1;
-            }
             for (int halvings = 0; halvings < 64 && below > 1 && above % 2 == 0; halvings++) {
                 above /= 2;
                 below /= 2;
