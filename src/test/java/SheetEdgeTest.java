@@ -430,6 +430,8 @@ public final class SheetEdgeTest {
         dueByItsCalls(Check.told("o1;s2;y1", "b2e;b2n;c3a;a4b;a1d;c4o", 4, 1, 5, 2, 14, 0, 13, 1, 1, 2, 3, 2, 0, 1), 4, 1, 3);
         dueByItsCalls(Check.told("s3;y2", "a6a;b7e;a2m;b5n;b3n", 3, 0, 4, 1, 5, 1, 13, 1, 14, 0), 13, 1, 8);
         dueByItsCalls(Check.told("y1;y1;y1;s1;s1;s1;o1;o1", "h5b;b4b;c1n;d2f;e1m", 1, 1, 13, 4, 14, 2, 6, 3, 0, 5, 0, 6), 0, 5, 1);
+        dueByItsCalls(Check.told("y1", "a4g", 6, 0), 6, 0, 4);
+        dueByItsCalls(Check.told("y1", "a4g", 2, 3, 6, 0, 6, 0), 6, 0, 0);
         dueByItsCalls(Check.told("", "h5b;b4b", 1, 1), 0, 5, 1);
         dueByItsCalls(Check.told("y1;", "h5b;b4b", 1, 1), 0, 5, 1);
         dueByItsCalls(Check.told("y1", "a5b;a4", 1, 1), 0, 0, 0);
