@@ -616,10 +616,10 @@ public final class CamelStraws {
         int broke;
         int firstFall;
 
-        void start(int sortOfCamel, int figure) {
+        void start(int sortOfCamel, int strengthOfCamel) {
             sort = sortOfCamel;
-            strengthAtFirst = strengthOf(figure);
-            strength = strengthAtFirst;
+            strengthAtFirst = strengthOfCamel;
+            strength = strengthOfCamel;
             load = 0;
             lies = false;
             fees = 0;
@@ -730,7 +730,7 @@ public final class CamelStraws {
         /** The walk of a camel that is there; the next march uses the same one again. */
         Walk march(int camel) {
             int busyDays = busyDaysOf(camel);
-            walk.start(camels.sorts[camel], camels.figures[camel]);
+            walk.start(camels.sorts[camel], strengthOf(camels.figures[camel]));
             for (int day = 0; day < DAYS; day++) {
                 walk.rise(day);
                 boolean busy = (busyDays >> day & 1) != 0;
